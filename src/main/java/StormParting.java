@@ -225,19 +225,7 @@ public final class StormParting {
 
     public int hangs(int cover) {
         Cover found = coverAt(cover);
-        if (found == null) {
-            return NONE;
-        }
-        int answer = NONE;
-        int leastLeft = HIDDEN;
-        for (int loss = 0; loss < losses.size; loss++) {
-            int left = greatestFor(found, losses.all() ^ (1 << loss));
-            if (left != HIDDEN && (answer == NONE || left < leastLeft)) {
-                answer = loss;
-                leastLeft = left;
-            }
-        }
-        return answer;
+        return found == null ? NONE : lossOfGreatestWeight(found, false);
     }
 
     public int told(int cover, int loss, int cause) {
@@ -256,7 +244,8 @@ public final class StormParting {
     }
 
     public int layers(int covers, boolean one) {
-        if (covers == 0 || (covers & -(1 << coverCount)) != 0) {
+        int all = (1 << coverCount) - 1;
+        if (covers == 0 || (covers & ~all) != 0) {
             return HIDDEN;
         }
         return one ? greatestByOneParting(covers) : greatestByOwnPartings(covers);
@@ -324,8 +313,8 @@ public final class StormParting {
         if (first == null || second == null || !isWithin(what, 0, 2)) {
             return HIDDEN;
         }
-        int struckOfFirst = lossToStrike(first);
-        int struckOfSecond = lossToStrike(second);
+        int struckOfFirst = lossOfGreatestWeight(first, true);
+        int struckOfSecond = lossOfGreatestWeight(second, true);
         if (struckOfFirst == NONE || struckOfSecond == NONE) {
             return HIDDEN;
         }
@@ -405,16 +394,17 @@ public final class StormParting {
         return search.findForJoined(losses.all()) ? search.greatest : HIDDEN;
     }
 
-    /** Unlike HANGS, the GAME is told only if something is left without each LOSS. */
-    private int lossToStrike(Cover cover) {
+    /** The loss without which least is left; NONE, if for one nothing is told where each must be. */
+    private int lossOfGreatestWeight(Cover cover, boolean eachMustBeTold) {
         int answer = NONE;
         int leastLeft = HIDDEN;
         for (int loss = 0; loss < losses.size; loss++) {
             int left = greatestFor(cover, losses.all() ^ (1 << loss));
             if (left == HIDDEN) {
-                return NONE;
-            }
-            if (answer == NONE || left < leastLeft) {
+                if (eachMustBeTold) {
+                    return NONE;
+                }
+            } else if (answer == NONE || left < leastLeft) {
                 answer = loss;
                 leastLeft = left;
             }

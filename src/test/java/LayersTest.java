@@ -44,6 +44,7 @@ public final class LayersTest {
         Check.due("the hours of both", s.layers(3, true), 2 * 1200);
         Check.due("the first with the miles of the third", s.layers(5, true), 2 * 300);
         Check.due("2 and 4: a gap of 6", s.layers(10, true), 2 * 1200);
+        Check.due("the first with the causes of the fourth", s.layers(9, true), 2 * 1200);
         Check.due("2, 3 and 4: 0 and 6 are too near for two, too far for one", s.layers(14, true), Check.HIDDEN);
         Check.due("each by its own", s.layers(14, false), 1200 + 300 + 1200);
         Check.cover(s, "h 1;g 6");

@@ -90,6 +90,13 @@ public final class MostTest {
         Check.loss(s, 9, 3);
         dueMost(s, 0, 15, new int[] {1500, 500, 3, 1});
         dueMost(s, 0, 7, new int[] {1000, 500, 2, 1});
+        StormParting t = new StormParting();
+        Check.cover(t, "h 50;o 1;r 5");
+        int[] chain = {5, 0, 10, 15};
+        for (int x : chain) {
+            t.loss(1, 0, 0, x, 0, 1);
+        }
+        dueMost(t, 0, 15, new int[] {400, 400, 2, 2});
     }
 
     private static void howOften() {
@@ -104,6 +111,8 @@ public final class MostTest {
         dueMost(s, 1, 15, new int[] {1700, 300, 2, 3});
         Check.cover(s, "h 1;n 2");
         dueMost(s, 2, 7, new int[] {1700, 1700, 2, 2});
+        Check.cover(s, "h 1;a 7;n 1");
+        dueMost(s, 3, 7, new int[] {300, 300, 2, 2});
         Check.loss(s, 50, 30);
         dueMost(s, 2, 16 + 7, new int[] {1700, 1700, 3, 3});
     }
