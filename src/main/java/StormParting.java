@@ -538,7 +538,8 @@ public final class StormParting {
         }
 
         int payFor(int sum) {
-            return Math.min(Math.max(sum - words[ABOVE], 0), words[UP_TO]);
+            int above = sum > words[ABOVE] ? sum - words[ABOVE] : 0;
+            return above < words[UP_TO] ? above : words[UP_TO];
         }
 
         int share() {
@@ -899,7 +900,17 @@ public final class StormParting {
             }
             length = losses.putInRow(set, row);
             seeWhoIsNear();
-            listHappenings();
+            happeningCount = 0;
+            for (int first = 0; first < length; first++) {
+                firstHappening[first] = happeningCount;
+                if (joint.overlaps()) {
+                    listSetsFrom(first);
+                } else {
+                    listRunsFrom(first);
+                }
+            }
+            firstHappening[length] = happeningCount;
+            priceHappenings();
             part((1 << length) - 1, 0, 0);
             return found;
         }
@@ -929,20 +940,6 @@ public final class StormParting {
             return common != 0 || !joint.asksCauses();
         }
 
-        /** All happenings that a LAWFUL PARTING may have, those with one first loss side by side. */
-        private void listHappenings() {
-            happeningCount = 0;
-            for (int first = 0; first < length; first++) {
-                firstHappening[first] = happeningCount;
-                if (joint.overlaps()) {
-                    listSetsFrom(first);
-                } else {
-                    listRunsFrom(first);
-                }
-            }
-            firstHappening[length] = happeningCount;
-        }
-
         private void listSetsFrom(int first) {
             int others = 1 << (length - 1 - first);
             for (int other = 0; other < others; other++) {
@@ -968,18 +965,22 @@ public final class StormParting {
         }
 
         private void list(int set) {
-            if (happeningCount >= MOST_HAPPENINGS) {
-                return;
+            if (happeningCount < MOST_HAPPENINGS) {
+                happenings[happeningCount] = set;
+                happeningCount++;
             }
-            int sum = 0;
-            for (int i = 0; i < length; i++) {
-                if ((set & (1 << i)) != 0) {
-                    sum += losses.sums[row[i]];
+        }
+
+        private void priceHappenings() {
+            for (int happening = 0; happening < happeningCount; happening++) {
+                int sum = 0;
+                for (int i = 0; i < length; i++) {
+                    if ((happenings[happening] & (1 << i)) != 0) {
+                        sum += losses.sums[row[i]];
+                    }
                 }
+                payers.price(happening, sum);
             }
-            happenings[happeningCount] = set;
-            payers.price(happeningCount, sum);
-            happeningCount++;
         }
 
         /** The next happening of the row is the one that has the first loss which is left. */

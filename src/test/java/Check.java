@@ -23,6 +23,10 @@ final class Check {
         due(call, got ? 1 : 0, want ? 1 : 0);
     }
 
+    static void due(String call, java.util.Set<String> got, java.util.Set<String> want) {
+        due(call, got.equals(want), true);
+    }
+
     static void end() {
         System.out.println(answers + " answers, " + wrong + " not as due");
         if (wrong != 0 || answers == 0) {
@@ -70,5 +74,13 @@ final class Check {
     static void dueWord(StormParting s, int cover, int what, String want) {
         String got = word(s, cover, what);
         due("word(" + cover + ", " + what + ") [" + got + ", due " + want + "]", got.equals(want), true);
+    }
+
+    /** Numbers out of low .. high: the first on each side, the ends of int, and some that are as low in fewer bits. */
+    static int[] outside(int low, int high) {
+        int[] some = {low - 1, high + 1, low - 2, high + 2, Integer.MIN_VALUE, Integer.MIN_VALUE + 1, Integer.MAX_VALUE - 1,
+            Integer.MAX_VALUE, low + 32, low + 64, low + 256, low + 65536, low + (1 << 30), low - 32, low - 256, -low, -high,
+            HIDDEN, ~low, ~high, low + 1000, 1 << 31 | high};
+        return java.util.Arrays.stream(some).filter(n -> n < low || n > high).distinct().toArray();
     }
 }

@@ -1,7 +1,10 @@
 import java.util.NoSuchElementException;
 import java.util.Random;
 
-/** Runs of calls, drawn by fixed seeds, on StormParting and on Plain: both answer alike. */
+/**
+ * Runs of calls, drawn by fixed seeds, on StormParting and on Plain: both answer alike.
+ * A run stays below 512 calls, for what later ones answer is free.
+ */
 public final class OracleTest {
     private static final String LETTERS = "rcogaunbp";
     private final Random random;
@@ -68,15 +71,15 @@ public final class OracleTest {
     }
 
     private int someCover() {
-        return some(0, s.count(0) - 1);
+        return some(0, p.count(0) - 1);
     }
 
     private int someLoss() {
-        return some(0, s.count(1) - 1);
+        return some(0, p.count(1) - 1);
     }
 
     private int someSet() {
-        int all = (1 << s.count(1)) - 1;
+        int all = (1 << p.count(1)) - 1;
         return random.nextInt(3) == 0 ? all : some(0, all);
     }
 
@@ -160,13 +163,13 @@ public final class OracleTest {
 
     private void tell() {
         int kind = random.nextInt(6);
-        if (kind == 0 && s.count(0) < 6 || s.count(0) == 0) {
+        if (kind == 0 && p.count(0) < 6 || p.count(0) == 0) {
             due("end(0)", s.end(0), p.end(0));
             feed(random.nextInt(5) == 0 ? spoiled(coverText()) : coverText());
             due("fault", s.fault(), p.fault());
             due("cover", s.cover(), p.cover());
-        } else if (kind == 1 || s.count(1) == 0) {
-            if (s.count(1) < mostLosses) {
+        } else if (kind == 1 || p.count(1) == 0) {
+            if (p.count(1) < mostLosses) {
                 newLoss();
             }
         } else if (kind == 2) {
@@ -183,7 +186,7 @@ public final class OracleTest {
             int sum = some(1, 30);
             due("mend", s.mend(loss, hour, sum), p.mend(loss, hour, sum));
         } else {
-            int n = some(0, s.count(3));
+            int n = some(0, p.count(3));
             due("end", s.end(n), p.end(n));
             feed(spoiled(coverText()));
         }
@@ -209,8 +212,8 @@ public final class OracleTest {
             case 11: what = some(0, 1); due("ends " + what, s.ends(cover, loss, what), p.ends(cover, loss, what)); break;
             case 12: due("hangs", s.hangs(cover), p.hangs(cover)); break;
             case 13: what = some(0, 5); due("told " + what, s.told(cover, loss, what), p.told(cover, loss, what)); break;
-            case 14: what = some(1, (1 << s.count(0)) - 1); due("layers", s.layers(what, flag), p.layers(what, flag)); break;
-            case 15: what = some(1, (1 << s.count(0)) - 1); due("one", s.layers(what, true), p.layers(what, true)); break;
+            case 14: what = some(1, (1 << p.count(0)) - 1); due("layers", s.layers(what, flag), p.layers(what, flag)); break;
+            case 15: what = some(1, (1 << p.count(0)) - 1); due("one", s.layers(what, true), p.layers(what, true)); break;
             case 16: what = some(0, 2); due("mean " + what, s.mean(cover, what), p.mean(cover, what)); break;
             case 17: what = some(0, 2); due("game " + what, s.game(cover, other, what), p.game(cover, other, what)); break;
             case 18: what = some(0, 3); due("count " + what, s.count(what), p.count(what)); break;

@@ -1,6 +1,6 @@
 /**
  * Every call with arguments from everywhere, on an object at each fullness: nothing is thrown but by word,
- * what is refused changes nothing, and no call makes what would fill the room.
+ * what only asks adds nothing, and no call makes what would fill the room. No object gets more than 512 calls.
  */
 public final class SweepTest {
     private static final int[] ANY = {Integer.MIN_VALUE, -100000000, -1, 0, 1, 2, 3, 5, 6, 11, 12, 15, 16, 31, 32, 33, 63, 64,
@@ -9,17 +9,18 @@ public final class SweepTest {
     public static void main(String[] args) {
         for (int losses = 0; losses <= 12; losses++) {
             for (int covers = 0; covers <= 6; covers += losses == 12 ? 1 : 3) {
-                StormParting s = made(losses, covers);
-                long before = picture(s);
                 for (int a : ANY) {
-                    ask(s, a);
+                    for (int b : ANY) {
+                        ask(made(losses, covers), a, b);
+                        tell(made(losses, covers), a, b);
+                    }
                 }
-                Check.due("nothing changed with " + losses + ", " + covers, picture(s), before);
             }
         }
-        refuseAll();
+        fullTapes();
         twelveTogether();
         calledOften();
+        all512Calls();
         Check.end();
     }
 
@@ -40,65 +41,61 @@ public final class SweepTest {
         return s;
     }
 
-    /** All that can be asked in a few calls, in one number. */
-    private static long picture(StormParting s) {
-        long p = s.fault();
-        for (int i = -1; i < 13; i++) {
-            p = 31 * p + s.count(i);
-            p = 31 * p + s.hangs(i);
-            p = 31 * p + s.judge(i);
-            p = 31 * p + s.mean(i, 0);
-            for (int j = 0; j < 10; j++) {
-                p = 31 * p + Check.word(s, i, j).hashCode();
-                p = 31 * p + s.brings(i, j);
-                p = 31 * p + s.paid(i, 1 << j);
-                p = 31 * p + s.year(i, 7 * j + 1, false);
-                p = 31 * p + s.told(2, i, j);
+    /** Nothing is thrown but by word; how many there are stays as it was. */
+    private static void ask(StormParting s, int a, int b) {
+        int before = counts(s);
+        Check.word(s, a, b);
+        s.may(a, b);
+        s.paid(a, b);
+        s.judge(a);
+        s.hangs(a);
+        s.brings(a, b);
+        s.year(a, b, true);
+        s.year(a, b, false);
+        s.layers(b, true);
+        s.layers(b, false);
+        s.nearest(a, b);
+        s.mean(a, b);
+        for (int c : ANY) {
+            s.most(a, b, c);
+            s.net(a, b, c);
+            s.told(a, b, c);
+            if (c < 2 || b < 4) {
+                s.ends(a, b, c);
+                s.game(a, b, c);
             }
         }
-        return p;
+        Check.due("how many there are, after asking " + a + ", " + b, counts(s), before);
     }
 
-    private static void ask(StormParting s, int a) {
-        for (int b : ANY) {
-            Check.word(s, a, b);
-            s.may(a, b);
-            s.paid(a, b);
-            s.brings(a, b);
-            s.year(a, b, true);
-            s.year(a, b, false);
-            s.layers(b, true);
-            s.layers(b, false);
-            s.nearest(a, b);
-            s.mean(a, b);
-            for (int c : ANY) {
-                s.most(a, b, c);
-                s.net(a, b, c);
-                s.told(a, b, c);
-                if (c < 2 || b < 4) {
-                    s.ends(a, b, c);
-                    s.game(a, b, c);
-                }
-            }
+    /** Nothing is thrown, whatever is told. */
+    private static void tell(StormParting s, int a, int b) {
+        s.put(a, b);
+        s.storm(a, b);
+        s.loss(b, a, 0, 0, 0, 1);
+        s.loss(1, 0, a, b, 0, 1);
+        s.loss(1, 0, 0, 0, a, b);
+        for (int c : ANY) {
+            s.mend(a, b, c);
         }
+        s.feed(a, b, a, b, a);
+        s.fault();
+        s.cover();
+        s.end(a);
+        s.feed(b, a, b, a, b);
+        s.cover();
+        s.judge(0);
+        s.ends(0, 0, 1);
+        s.game(0, 1, 1);
+        Check.due("bytes after " + a + ", " + b, s.count(3) >= 0 && s.count(3) <= 120, true);
     }
 
-    private static void refuseAll() {
+    private static int counts(StormParting s) {
+        return s.count(0) + 7 * s.count(1) + 100 * s.count(2) + 2000 * s.count(3);
+    }
+
+    private static void fullTapes() {
         StormParting s = made(12, 6);
-        long before = picture(s);
-        for (int a : ANY) {
-            Check.due("feed to a full tape", a == 0 || s.feed(0, a, 0, 0, 0) == Check.NONE, true);
-            Check.due("storm when full", s.storm(a, 1), Check.NONE);
-            Check.due("loss when full", s.loss(1, a, 0, 0, 0, 1), Check.NONE);
-            Check.due("end", a >= 0 && a <= 120 || !s.end(a), true);
-            Check.due("put", a >= 0 && a < 12 || !s.put(a, 0), true);
-            Check.due("put number", a >= 0 && a <= 15 || !s.put(0, a), true);
-            Check.due("mend", a >= 0 && a < 12 || !s.mend(a, 0, 1), true);
-            Check.due("mend hour", a >= 0 && a <= 999 || !s.mend(0, a, 1), true);
-            Check.due("mend sum", a >= 1 && a <= 99 || !s.mend(0, 0, a), true);
-        }
-        Check.due("cover of blanks", s.cover(), Check.NONE);
-        Check.due("what is refused changes nothing", picture(s), before);
         for (int k = 0; k < 5; k++) {
             s.end(0);
             int[] n = new int[5];
@@ -162,7 +159,7 @@ public final class SweepTest {
         long id = Thread.currentThread().getId();
         room.getThreadAllocatedBytes(id);
         long before = room.getThreadAllocatedBytes(id);
-        for (int i = 0; i < 64; i++) {
+        for (int i = 0; i < 48; i++) {
             s.ends(0, i % 12, i % 2);
             s.nearest(i % 6, 0);
             s.layers(63, true);
@@ -173,6 +170,18 @@ public final class SweepTest {
             s.fault();
         }
         long made = room.getThreadAllocatedBytes(id) - before;
-        Check.due("512 dear calls made " + made + " bytes", made < 100000, true);
+        Check.due("384 dear calls made " + made + " bytes", made < 100000, true);
+    }
+
+    /** 'An object is used for at most 512 calls': the last of them answers as the first does. */
+    private static void all512Calls() {
+        StormParting s = new StormParting();
+        s.feed(0x68203900, 0, 0, 0, 0);
+        s.cover();
+        s.loss(10, 0, 0, 0, 0, 1);
+        s.loss(10, 8, 0, 0, 0, 1);
+        for (int call = 5; call <= 512; call++) {
+            Check.due("call " + call, s.most(0, 3, call % 4), call % 4 < 2 ? 2000 : 1);
+        }
     }
 }
