@@ -123,6 +123,16 @@ public final class LayersBoundsTest {
         Check.due("0 and 1 by place, 1 and 2 by cause: none together", t.layers(3, true), 1500 + 1500);
         Check.due("the fewer MILES count", t.layers(5, true), 2000 + 2000);
         Check.due("the fewer MILES count, the other way", t.layers(6, true), 2000 + 2000);
+        StormParting u = new StormParting();
+        Check.cover(u, "h 9;a 5");
+        Check.cover(u, "h 9;r 9;a 5");
+        Check.cover(u, "h 9;r 4;a 5");
+        u.loss(10, 0, 0, 0, 0, 1);
+        u.loss(10, 1, 0, 5, 0, 1);
+        Check.due("MILES not asked, then 9", u.layers(3, true), 1500 + 1500);
+        Check.due("MILES not asked, then 4", u.layers(5, true), 1000 + 1000);
+        Check.due("9 MILES, then 4", u.layers(6, true), 1000 + 1000);
+        Check.due("all three", u.layers(7, true), 1000 + 1000 + 1000);
     }
 
     private static void gapOfThoseThatMayNotOverlap() {
@@ -134,6 +144,9 @@ public final class LayersBoundsTest {
         Check.due("GAPS of 0 and 3", s.layers(7, true), 6000);
         StormParting t = with(covers("h 9;g 4;a 5", "h 3;o 1;g 99"), 0, 4);
         Check.due("the first has the GAP", t.layers(3, true), H);
+        StormParting u = with(covers("h 1;o 1", "h 1", "h 1;o 1;g 1"), 0, 1);
+        Check.due("no GAP with one that may overlap", u.layers(3, true), 4000);
+        Check.due("no GAP with one that may overlap behind it", u.layers(6, true), 4000);
     }
 
     /** '(told as in 3, if by one of them happenings may not overlap, or for eight LOSSES)' */
@@ -185,6 +198,10 @@ public final class LayersBoundsTest {
             int want = apart == 100 ? 1 : apart == 99 ? H : apart + 1;
             Check.due("HOURS, " + apart + " apart", s.nearest(0, 0), want);
             Check.due("MOST less LEAST, " + apart + " apart", s.nearest(0, 1), want == H ? H : 0);
+        }
+        for (int apart = 0; apart < 99; apart++) {
+            StormParting s = with(covers("h 50;g 99;a 5"), 100 + apart, 100);
+            Check.due("HOURS, the first is " + apart + " later", s.nearest(0, 0), apart + 1);
         }
         StormParting s = with(covers("h 1;g 5;a 5"), 0, 5, 11, 17);
         Check.due("lawful from 6 on: 0, 5 in one", s.nearest(0, 0), 6);

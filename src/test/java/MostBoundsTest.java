@@ -189,6 +189,15 @@ public final class MostBoundsTest {
         due("three for MOST, one for LEAST", u, 0, 7, 3000, 1000, 3, 1);
         StormParting v = with("h 9;a 10", 0, 4, 8);
         due("three of nothing", v, 0, 7, 2000, 0, 1, 3);
+        int[][] chains = {{5, 0, 10, 15}, {0, 5, 10, 15}, {10, 15, 5, 0}, {5, 10, 0, 15}};
+        for (int[] chain : chains) {
+            StormParting w = new StormParting();
+            Check.cover(w, "h 1;r 5;o 1");
+            for (int x : chain) {
+                w.loss(10, 0, 0, x, 0, 1);
+            }
+            due("two pairs of a chain, not its middle and its ends", w, 0, 15, 4000, 4000, 2, 2);
+        }
     }
 
     private static void firstNOfTheRow() {

@@ -227,6 +227,14 @@ public final class ToldBoundsTest {
         Check.due("then none", s.judge(0), Check.NONE);
         s.put(0, 2);
         Check.due("a pair is ahead of a whole", s.judge(0), 3);
+        StormParting t = new StormParting();
+        Check.cover(t, "h 99;c 1");
+        for (int i = 0; i < 4; i++) {
+            t.loss(1, i, 0, 0, 0, 15 ^ (1 << i));
+        }
+        Check.due("all four may not be one: the two lowest", t.judge(0), 1);
+        t.put(3, 1);
+        Check.due("three may", t.judge(0), Check.NONE);
     }
 
     /** 'HIDDEN: not LAWFUL, no such ones.' */
