@@ -15,8 +15,10 @@ public final class LayersBoundsTest {
         oneIsToldIfOneMayNotOverlap();
         eachPaysByItsOwnWords();
         nearestOfNoSuchOnes();
+        nearestWithNoLosses();
         nearestFrom1To99();
         ofSeveralTheLeast();
+        somethingBetween();
         nearestNotTold();
         allElseAsItIs();
         stormOfNoSuchOnes();
@@ -159,10 +161,17 @@ public final class LayersBoundsTest {
             Check.due(count + ": one alone", s.layers(1, true), count <= 8 ? all : H);
             Check.due(count + ": one may not", s.layers(5, true), 2 * all);
             Check.due(count + ": one may not, own", s.layers(5, false), count <= 8 ? 2 * all : H);
-            Check.due(count + ": of three one may not", s.layers(7, true) != H, true);
+            Check.due(count + ": of three one may not", s.layers(7, true), ofThree(count));
             Check.due(count + ": that one", s.layers(4, true), all);
             Check.due(count + ": that one, own", s.layers(4, false), all);
         }
+    }
+
+    /** In one: 99 at most by each; in two: all that there is, less ABOVE twice. Seven and more never gain by three. */
+    private static int ofThree(int count) {
+        int inOne = 2 * Math.min(99, 10 * count) + Math.min(99, 10 * count - 5);
+        int inTwo = 3 * 10 * count - 2 * 5;
+        return 100 * Math.max(inOne, inTwo);
     }
 
     private static int bothOf(int count) {
@@ -189,6 +198,18 @@ public final class LayersBoundsTest {
                 Twins.refused("nearest(0, " + what + ")", STATES[k], s -> s.nearest(0, what), H);
             }
         }
+    }
+
+    /** Any HOURS bring nothing and nothing then: of several the least, which is 1. */
+    private static void nearestWithNoLosses() {
+        StormParting s = with(covers("h 50", "h 9;o 1;g 99;a 5"));
+        for (int cover = 0; cover < 2; cover++) {
+            Check.due("no losses, HOURS", s.nearest(cover, 0), 1);
+            Check.due("no losses, MOST less LEAST", s.nearest(cover, 1), 0);
+        }
+        Check.loss(s, 10, 999);
+        Check.due("one loss, HOURS", s.nearest(0, 0), 1);
+        Check.due("one loss, MOST less LEAST", s.nearest(0, 1), 0);
     }
 
     /** 'of HOURS 1 .. 99 those with which MOST less LEAST of a COVER is least, where both are told' */
@@ -232,6 +253,26 @@ public final class LayersBoundsTest {
         }
         Check.due("with 11: 0 alone, 11 and 21, 32 alone", u.nearest(0, 0), 11);
         Check.due("one parting", u.nearest(0, 1), 0);
+    }
+
+    /** 'MOST less LEAST then (1)', where no HOURS bring both alike */
+    private static void somethingBetween() {
+        StormParting s = with(covers("h 50;o 1;a 5", "h 50;o 1;u 10", "h 50;o 1;a 5;b 40"), 7, 7);
+        Check.due("at one hour: 15 in one, 10 in two", s.nearest(0, 0), 1);
+        Check.due("15 less 10", s.nearest(0, 1), 500);
+        Check.due("at one hour: 10 in one, 20 in two", s.nearest(1, 0), 1);
+        Check.due("20 less 10", s.nearest(1, 1), 1000);
+        Check.due("15 less 10 with 40 borne", s.nearest(2, 1), 300);
+        StormParting t = with(covers("h 50;g 5;a 5", "h 99;g 5;a 5;u 12"), 0, 5, 10, 100, 106);
+        Check.due("0, 5, 10 need 11; 100 and 106 may be one then", t.nearest(0, 0), 11);
+        Check.due("25 and 15 less 25 and 5 and 5", t.nearest(0, 1), 500);
+        Check.due("up to 12: 11 too", t.nearest(1, 0), 11);
+        Check.due("12 and 12 less 12 and 5 and 5", t.nearest(1, 1), 200);
+        t.mend(4, 110, 10);
+        Check.due("100 and 110 may be one with 11", t.nearest(0, 1), 500);
+        t.mend(4, 111, 10);
+        Check.due("100 and 111 may not", t.nearest(0, 1), 0);
+        Check.due("HOURS are 11 still", t.nearest(0, 0), 11);
     }
 
     private static void nearestNotTold() {

@@ -23,6 +23,7 @@ public final class MostBoundsTest {
         eachHourWhereItMayHaveBeen();
         endsLeftOut();
         endsNotTold();
+        theirHourIsAsTold();
         hangsOfNoSuchOnes();
         hangsTheLowest();
         hangsLeftOut();
@@ -335,6 +336,42 @@ public final class MostBoundsTest {
         Check.due("nine, the greatest", s.ends(0, 8, 1), H);
         Check.cover(s, "h 99");
         Check.due("nine that may not overlap", s.ends(1, 8, 1), 9000);
+    }
+
+    /** 'Their hour is as told, where nothing else is said.': hours later change nothing but ENDS. */
+    private static void theirHourIsAsTold() {
+        StormParting told = new StormParting();
+        StormParting later = new StormParting();
+        for (StormParting s : new StormParting[] {told, later}) {
+            Check.cover(s, "h 9;a 5;n 2");
+            Check.cover(s, "h 20;g 3;u 15;p 9");
+            int[] hours = {10, 14, 30, 31, 60};
+            for (int i = 0; i < hours.length; i++) {
+                s.loss(10 + i, hours[i], s == later ? 99 - i : 0, 0, 0, 3);
+                s.put(i, i / 2);
+            }
+            s.storm(15, 2);
+            s.storm(22, 3);
+        }
+        for (int c = 0; c < 2; c++) {
+            for (int set = 0; set < 32; set++) {
+                for (int what = 0; what < 4; what++) {
+                    Check.due("most, " + c + ", " + set, later.most(c, set, what), told.most(c, set, what));
+                }
+                Check.due("may, " + c + ", " + set, later.may(c, set), told.may(c, set));
+                Check.due("net, " + c + ", " + set, later.net(c, set, 0), told.net(c, set, 0));
+            }
+            Check.due("judge, " + c, later.judge(c), told.judge(c));
+            Check.due("brings, " + c, later.brings(c, 0), told.brings(c, 0));
+            Check.due("hangs, " + c, later.hangs(c), told.hangs(c));
+            Check.due("told, " + c, later.told(c, 1, 1), told.told(c, 1, 1));
+            Check.due("nearest, " + c, later.nearest(c, 0), told.nearest(c, 0));
+            Check.due("mean, " + c, later.mean(c, 0), told.mean(c, 0));
+            Check.due("game, " + c, later.game(c, 1 - c, 1), told.game(c, 1 - c, 1));
+            Check.due("layers, " + c, later.layers(3, c == 0), told.layers(3, c == 0));
+        }
+        Check.due("ENDS of 0 as told", told.ends(0, 0, 0), told.ends(0, 0, 1));
+        Check.due("ENDS of 0 later", later.ends(0, 0, 0) < later.ends(0, 0, 1), true);
     }
 
     /** 'NONE: there is none, not told (for all LOSSES but one), no such COVER.' */
