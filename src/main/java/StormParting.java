@@ -212,6 +212,10 @@ public final class StormParting {
         int lastHour = losses.lastHours[loss];
         int answer = HIDDEN;
         for (int hour = toldHour; hour <= lastHour; hour++) {
+            // Where it stands to all others as it did an hour before, MOST is what it was.
+            if (hour > toldHour && !losses.standsAnewAt(hour, loss, found)) {
+                continue;
+            }
             losses.hours[loss] = hour;
             int here = greatestFor(found, losses.all());
             boolean better = what == 0 ? here < answer : here > answer;
@@ -650,6 +654,25 @@ public final class StormParting {
                     if (hours[j] - hours[i] == apart) {
                         return true;
                     }
+                }
+            }
+            return false;
+        }
+
+        /**
+         * Whether the loss stands to some other one otherwise at this hour than an hour before: in the row, by HOURS or
+         * by GAP. Nothing else of the hours counts for what is LAWFUL and for what is PAID.
+         */
+        boolean standsAnewAt(int hour, int loss, Cover cover) {
+            int near = cover.words[HOURS];
+            int gap = cover.words[GAP];
+            for (int other = 0; other < size; other++) {
+                int behind = hour - hours[other];
+                boolean inRow = behind == 0 || behind == 1;
+                boolean inHours = behind == 1 - near || behind == near;
+                boolean inGap = behind == -gap || behind == gap + 1;
+                if (other != loss && (inRow || inHours || inGap)) {
+                    return true;
                 }
             }
             return false;

@@ -1,3 +1,5 @@
+import java.util.Random;
+
 /** The edges that the document names for MOST and what hangs on it: promises 14 to 18. */
 public final class MostBoundsTest {
     private static final Twins.Making[] STATES = {Twins::nothing, Twins::some, Twins::full};
@@ -21,6 +23,7 @@ public final class MostBoundsTest {
         netAlikeTheMost();
         endsOfNoSuchOnes();
         eachHourWhereItMayHaveBeen();
+        endsHourByHour();
         endsLeftOut();
         endsNotTold();
         theirHourIsAsTold();
@@ -308,6 +311,53 @@ public final class MostBoundsTest {
         Check.due("told: the greatest", t.ends(0, 0, 1), 1500);
         t.put(0, 9);
         Check.due("not by the TOLD PARTING", t.ends(0, 0, 1), 1500);
+    }
+
+    /** The same for drawn losses and covers: another object is told each hour by itself and asked for MOST. */
+    private static void endsHourByHour() {
+        for (int seed = 1; seed <= 3000; seed++) {
+            Random random = new Random(seed);
+            String text = drawnCover(random);
+            int[][] drawn = drawnLosses(random);
+            int moved = random.nextInt(drawn.length);
+            int last = drawn[moved][1] + (seed % 300 == 0 ? 700 : 5 + random.nextInt(seed % 4 == 0 ? 70 : 15));
+            int least = H;
+            int greatest = H;
+            for (int hour = drawn[moved][1]; hour <= last; hour++) {
+                int most = made(text, drawn, moved, hour).most(0, (1 << drawn.length) - 1, 0);
+                least = most != H && (least == H || most < least) ? most : least;
+                greatest = Math.max(greatest, most);
+            }
+            StormParting s = made(text, drawn, moved, last);
+            s.mend(moved, drawn[moved][1], drawn[moved][0]);
+            Check.due("seed " + seed + ", '" + text + "', the least", s.ends(0, moved, 0), least);
+            Check.due("seed " + seed + ", '" + text + "', the greatest", s.ends(0, moved, 1), greatest);
+        }
+    }
+
+    private static String drawnCover(Random random) {
+        String text = "h " + (1 + random.nextInt(10)) + ";o " + random.nextInt(2) + ";n " + (1 + random.nextInt(3));
+        text += random.nextBoolean() ? ";a " + random.nextInt(30) : ";u " + (1 + random.nextInt(30));
+        text += random.nextBoolean() ? ";g " + random.nextInt(6) : "";
+        return text + (random.nextInt(3) == 0 ? ";c 1" : "");
+    }
+
+    /** Each as its sum, its hour and its causes. */
+    private static int[][] drawnLosses(Random random) {
+        int[][] drawn = new int[3 + random.nextInt(3)][];
+        for (int i = 0; i < drawn.length; i++) {
+            drawn[i] = new int[] {1 + random.nextInt(40), random.nextInt(16), 1 + random.nextInt(7)};
+        }
+        return drawn;
+    }
+
+    private static StormParting made(String text, int[][] drawn, int moved, int hour) {
+        StormParting s = new StormParting();
+        Check.cover(s, text);
+        for (int i = 0; i < drawn.length; i++) {
+            s.loss(drawn[i][0], i == moved ? hour : drawn[i][1], 0, 0, 0, drawn[i][2]);
+        }
+        return s;
     }
 
     /** '(those without a LAWFUL PARTING left out)' */

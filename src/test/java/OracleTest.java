@@ -13,12 +13,16 @@ public final class OracleTest {
     private final Plain p = new Plain();
     private final int mostLosses;
     private final int lastHour;
+    /** All places taken, and numbers from the whole of their bounds. */
+    private final boolean wide;
 
     private OracleTest(long seed, int mostLosses) {
         random = new Random(seed);
         name = "seed " + seed + ": ";
         this.mostLosses = mostLosses;
-        lastHour = random.nextInt(3) == 0 ? 60 : 16;
+        wide = mostLosses == 12;
+        int wideHour = new int[] {30, 99, 250, 999}[random.nextInt(4)];
+        lastHour = wide ? wideHour : random.nextInt(3) == 0 ? 60 : 16;
     }
 
     public static void main(String[] args) {
@@ -28,6 +32,7 @@ public final class OracleTest {
         }
         for (int seed = 1; seed <= runs / 25; seed++) {
             new OracleTest(-seed, 9).run(60);
+            new OracleTest(-1000000L - seed, 12).run(100);
         }
         for (int seed = 1; seed <= 20000; seed++) {
             new OracleTest(1000000L + seed, 0).tapeRun();
@@ -96,12 +101,16 @@ public final class OracleTest {
     }
 
     private int highOf(char letter) {
+        if (wide && random.nextBoolean()) {
+            return letter == 'c' || letter == 'o' ? 1 : letter == 'n' ? 9 : 99;
+        }
         return letter == 'c' || letter == 'o' ? 1 : letter == 'n' ? 3 : letter == 'r' ? 9 : letter == 'g' ? 4
             : letter == 'a' ? 20 : letter == 'u' ? 40 : 99;
     }
 
     private String coverText() {
-        StringBuilder text = new StringBuilder(blanks(0)).append('h').append(blanks(1)).append(1 + random.nextInt(lastHour));
+        StringBuilder text = new StringBuilder(blanks(0)).append('h').append(blanks(1));
+        text.append(1 + random.nextInt(Math.min(99, lastHour)));
         for (int k = random.nextInt(7); k > 0; k--) {
             char letter = LETTERS.charAt(random.nextInt(LETTERS.length()));
             int value = random.nextInt(highOf(letter) + 1);
@@ -154,9 +163,10 @@ public final class OracleTest {
     private void newLoss() {
         int sum = random.nextInt(4) == 0 ? some(1, 99) : some(1, 20);
         int hour = some(0, lastHour);
-        int later = random.nextInt(3) == 0 ? some(0, 8) : 0;
-        int x = some(0, 8);
-        int y = some(0, 8);
+        int later = random.nextInt(3) == 0 ? some(0, wide ? 99 : 8) : 0;
+        int far = wide && random.nextInt(3) == 0 ? 99 : 8;
+        int x = some(0, far);
+        int y = some(0, far);
         int causes = random.nextInt(2) == 0 ? some(1, 7) : some(1, 63);
         due("loss", s.loss(sum, hour, later, x, y, causes), p.loss(sum, hour, later, x, y, causes));
     }
@@ -193,11 +203,14 @@ public final class OracleTest {
     }
 
     private void ask() {
-        int kind = random.nextInt(mostLosses > 6 ? 19 : 20);
+        int kind = random.nextInt(mostLosses > 6 && random.nextInt(20) != 0 ? 19 : 20);
         int cover = someCover();
         int other = someCover();
         int set = someSet();
         int loss = someLoss();
+        if (kind == 11 && wide && p.later(loss) > 20 + random.nextInt(200)) {
+            return;
+        }
         boolean flag = random.nextBoolean();
         int what;
         switch (kind) {

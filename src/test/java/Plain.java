@@ -265,6 +265,31 @@ final class Plain {
         now.remove(now.size() - 1);
     }
 
+    /**
+     * Twelve losses have four million partings. Where happenings stand apart, one that has two losses has all between
+     * them, so that above eight losses only the ways to cut their row by hours are made.
+     */
+    private List<List<List<Integer>>> everyParting(List<Integer> some, boolean apart) {
+        List<List<List<Integer>>> all = new ArrayList<>();
+        if (!apart || some.size() <= 8) {
+            partings(some, 0, new ArrayList<>(), all);
+            return all;
+        }
+        List<Integer> byHour = new ArrayList<>(some);
+        byHour.sort((a, b) -> losses.get(a)[1] - losses.get(b)[1]);
+        for (int cuts = 0; cuts < 1 << (some.size() - 1); cuts++) {
+            List<List<Integer>> parting = new ArrayList<>();
+            for (int i = 0; i < byHour.size(); i++) {
+                if (i == 0 || (cuts >> (i - 1) & 1) == 1) {
+                    parting.add(new ArrayList<>());
+                }
+                parting.get(parting.size() - 1).add(byHour.get(i));
+            }
+            all.add(parting);
+        }
+        return all;
+    }
+
     private static boolean told(int[] words, int set) {
         return words[3] == 0 || Integer.bitCount(set) <= 8;
     }
@@ -274,8 +299,7 @@ final class Plain {
         if (!told(words, set)) {
             return null;
         }
-        List<List<List<Integer>>> all = new ArrayList<>();
-        partings(members(set), 0, new ArrayList<>(), all);
+        List<List<List<Integer>>> all = everyParting(members(set), words[3] == 0);
         all.removeIf(p -> !lawful(words, p));
         return all;
     }
@@ -434,6 +458,11 @@ final class Plain {
         return found.isEmpty() ? HIDDEN : found.get(what == 0 ? 0 : found.size() - 1);
     }
 
+    /** How many hours later a loss may have been (0, if there is none such): what ends costs here. */
+    int later(int loss) {
+        return noLoss(loss) ? 0 : losses.get(loss)[2] - losses.get(loss)[1];
+    }
+
     int hangs(int cover) {
         if (noCover(cover)) {
             return NONE;
@@ -487,15 +516,14 @@ final class Plain {
     }
 
     private int byOne(List<int[]> taken) {
-        boolean told = losses.size() <= 8;
+        boolean apart = false;
         for (int[] words : taken) {
-            told |= words[3] == 0;
+            apart |= words[3] == 0;
         }
-        if (!told) {
+        if (!apart && losses.size() > 8) {
             return HIDDEN;
         }
-        List<List<List<Integer>>> all = new ArrayList<>();
-        partings(members(all()), 0, new ArrayList<>(), all);
+        List<List<List<Integer>>> all = everyParting(members(all()), apart);
         int best = HIDDEN;
         for (List<List<Integer>> p : all) {
             boolean lawful = true;
